@@ -1612,6 +1612,8 @@ public final class SkewedWays {
         private final int[] starts = new int[MOST_OPEN];
         private int open;
         private int due;
+        private int number;
+        private int numberAt;
         private int line;
         private int stride;
         private boolean tooLong;
@@ -1627,42 +1629,45 @@ public final class SkewedWays {
             tooLong = false;
             fault = 0;
             place = NONE;
+            numberAt = NONE;
             trace.size = 0;
-            int at = 0;
-            while (at < length && at < text.length && fault == 0) {
-                int sign = text[at];
-                if (isDigit(sign)) {
-                    at = readNumber(text, length, at, trace);
+            for (int at = 0; at < length && at < text.length && fault == 0; at++) {
+                if (isDigit(text[at])) {
+                    takeDigit(text[at] - '0', at);
                 } else {
-                    if (sign != ' ' && sign != '\n') {
-                        takeSign(sign, at, trace);
-                    }
-                    at++;
+                    endNumber(trace);
+                    takeSign(text[at], at, trace);
                 }
             }
-            if (fault == 0) {
-                takeEnd(length);
-            }
+            endNumber(trace);
+            takeEnd(length);
         }
 
         private static boolean isDigit(int sign) {
             return sign >= '0' && sign <= '9';
         }
 
-        private int readNumber(int[] text, int length, int from, Trace trace) {
-            int number = 0;
-            int at = from;
-            while (at < length && at < text.length && isDigit(text[at])) {
-                number = Math.min(number * 10 + text[at] - '0', HUGE);
-                at++;
+        private void takeDigit(int digit, int at) {
+            if (numberAt == NONE) {
+                numberAt = at;
+                number = 0;
             }
-            takeNumber(number, from, trace);
-            return at;
+            number = Math.min(number * 10 + digit, HUGE);
         }
 
+        private void endNumber(Trace trace) {
+            if (numberAt != NONE) {
+                takeNumber(trace);
+                numberAt = NONE;
+            }
+        }
+
+        /** The first fault stays. */
         private void fail(int which, int at) {
-            fault = which;
-            place = at;
+            if (fault == 0) {
+                fault = which;
+                place = at;
+            }
         }
 
         private void takeEnd(int length) {
@@ -1678,6 +1683,9 @@ public final class SkewedWays {
         }
 
         private void takeSign(int sign, int at, Trace trace) {
+            if (sign == ' ' || sign == '\n') {
+                return;
+            }
             if (sign == '(' && mayItemCome()) {
                 openLoop(at, trace);
             } else if (sign == ')' && mayItemCome() && open > 0) {
@@ -1707,54 +1715,54 @@ public final class SkewedWays {
             due = ITEMS;
         }
 
-        private void takeNumber(int number, int at, Trace trace) {
+        private void takeNumber(Trace trace) {
             switch (due) {
                 case READ_LINE:
-                    if (isWithin(number, 0, LINES - 1, at)) {
+                    if (isWithin(0, LINES - 1)) {
                         line = number;
                         emit(trace, number, READ);
                         due = READ_DONE;
                     }
                     break;
                 case STRIDE:
-                    if (isWithin(number, 0, LINES - 1, at)) {
+                    if (isWithin(0, LINES - 1)) {
                         stride = number;
                         due = STRIDE_DONE;
                     }
                     break;
                 case COUNT:
-                    if (isWithin(number, 1, 99, at)) {
+                    if (isWithin(1, 99)) {
                         emitStrides(trace, number);
                         due = ITEMS;
                     }
                     break;
                 case WRITE_LINE:
-                    if (isWithin(number, 0, LINES - 1, at)) {
+                    if (isWithin(0, LINES - 1)) {
                         line = number;
                         due = WRITE_DONE;
                     }
                     break;
                 case VALUE:
-                    if (isWithin(number, 0, MOST_VALUE, at)) {
+                    if (isWithin(0, MOST_VALUE)) {
                         emit(trace, line, number);
                         due = ITEMS;
                     }
                     break;
                 case TIMES:
-                    if (isWithin(number, 1, 9, at)) {
+                    if (isWithin(1, 9)) {
                         closeLoop(trace, number);
                         due = ITEMS;
                     }
                     break;
                 default:
-                    fail(1, at);
+                    fail(1, numberAt);
                     break;
             }
         }
 
-        private boolean isWithin(int number, int least, int most, int at) {
+        private boolean isWithin(int least, int most) {
             if (number < least || number > most) {
-                fail(2, at);
+                fail(2, numberAt);
                 return false;
             }
             return true;
