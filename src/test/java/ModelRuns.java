@@ -1101,16 +1101,11 @@ public final class ModelRuns {
                     State c = s.copy();
                     c.ask(l);
                     gone = c.book.get(c.book.size() - 1)[1];
-                    int steps = c.book.get(c.book.size() - 1)[2];
-                    // Who is in another way now was moved; in order, backwards from where the line is.
-                    int way = c.wayOf(l);
-                    for (int k = 0; k < steps; k++) {
-                        Held was = s.slots[way][c.index(k == 0 ? l : moved.get(0), way)];
-                        moved.add(0, was.line);
-                        way = c.wayOf(was.line);
-                    }
+                    moved = movedBy(s, l);
                 }
-                due(sign("victim", l), x.victim(l), gone);
+                if (r.nextBoolean()) {
+                    due(sign("victim", l), x.victim(l), gone);
+                }
                 due(sign("moved", l, i), x.moved(l, i), !m.line(l) ? -1 : i == -1 ? moved.size()
                     : i >= 0 && i < moved.size() ? moved.get(i) : -1);
                 break;
@@ -1339,7 +1334,9 @@ public final class ModelRuns {
                 for (int l : m.set) {
                     all.add(m.pieceOf(l));
                 }
-                due("pieces", x.pieces(), all.size());
+                if (r.nextBoolean()) {
+                    due("pieces", x.pieces(), all.size());
+                }
                 int l = m.set.isEmpty() || r.nextInt(4) == 0 ? num(r, 0, 1023) : m.set.get(r.nextInt(m.set.size()));
                 due(sign("piece", l), x.piece(l), m.set.contains(l) ? m.pieceOf(l).size() : -1);
                 break;
@@ -1456,9 +1453,9 @@ public final class ModelRuns {
         calls.clear();
         int[] ranges = {12, 24, 64, 200, 1024};
         int lines = ranges[r.nextInt(ranges.length)];
-        while (calls.size() < 490) {
+        while (calls.size() < 450) {
             int kind = r.nextInt(100);
-            if (kind < 4 && calls.size() < 470) {
+            if (kind < 4 && calls.size() < 430) {
                 feedText(r, x, m, spoil(r, drawText(r, lines, 0)));
                 due("text", x.text(), m.text());
             } else if (kind < 50) {
@@ -1479,6 +1476,153 @@ public final class ModelRuns {
                 return;
             }
         }
+        lookAtAll(x, m);
+    }
+
+    /** All that is counted, and the latest lines of the book. */
+    private static void lookAtAll(SkewedWays x, Model m) {
+        State s = m.s;
+        int pinned = 0;
+        for (Held[] row : s.slots) {
+            for (Held p : row) {
+                pinned += p != null && p.pinned ? 1 : 0;
+            }
+        }
+        int[] all = {s.ways, s.bits, s.depth, s.hits, s.misses, s.out, s.back, s.moves, s.x,
+            s.ways * (1 << s.bits) - s.filled(), s.bypassed, pinned};
+        for (int what = 0; what < all.length; what++) {
+            due(sign("is", what), x.is(what), all[what]);
+        }
+        int lines = s.book.size();
+        for (int i = Math.max(0, lines - 4); i < lines; i++) {
+            for (int what = 0; what < 4; what++) {
+                due(sign("book", i, what), x.book(i, what), s.book.get(i)[what]);
+            }
+        }
+    }
+
+    private static void drawMasks(Random r, SkewedWays x, Model m, int ways, int bits) {
+        m.s.empty();
+        m.s.shape(ways, bits);
+        due(sign("shape", ways, bits), x.shape(ways, bits), ways << bits);
+        int few = 1 + r.nextInt(10);
+        for (int w = 0; w < ways; w++) {
+            for (int k = 0; k < bits; k++) {
+                int mask = r.nextInt(1 << few);
+                m.s.masks[w][k] = mask;
+                due(sign("mask", w, k, mask), x.mask(w, k, mask), m.rank(m.masksOf(w)));
+            }
+        }
+    }
+
+    /** Sets of lines that are full, by masks of all kinds: what fits, what meets. */
+    private static void runSets(long seed) {
+        Random r = new Random(seed);
+        SkewedWays x = new SkewedWays();
+        Model m = new Model();
+        calls.clear();
+        while (calls.size() < 400) {
+            drawMasks(r, x, m, 1 + r.nextInt(4), 1 + r.nextInt(r.nextBoolean() ? 4 : 2));
+            int lines = 8 << r.nextInt(8);
+            for (int i = 1 + r.nextInt(32); i > 0; i--) {
+                int l = r.nextInt(lines);
+                int want = -1;
+                if (!m.set.contains(l) && m.set.size() < 32) {
+                    m.set.add(l);
+                    want = m.set.size();
+                }
+                due(sign("gather", l), x.gather(l), want);
+            }
+            due("fitting", x.fitting(), m.matching(m.set));
+            for (int i = 0; i < 12; i++) {
+                weighSet(r, x, m);
+            }
+            for (int i = 0; i < 25; i++) {
+                weigh(r, x, m, lines);
+            }
+            while (m.set.size() > r.nextInt(12)) {
+                int l = m.set.remove(r.nextInt(m.set.size()));
+                due(sign("scatter", l), b(x.scatter(l)), 1);
+            }
+            if (wrong > 0) {
+                System.out.println("set seed " + seed + ", behind these calls: " + calls);
+                return;
+            }
+        }
+    }
+
+    /** Few slots, full of lines, some of them pinned, by great depths: lines that are moved far. */
+    private static void runDeep(long seed) {
+        Random r = new Random(seed);
+        SkewedWays x = new SkewedWays();
+        Model m = new Model();
+        calls.clear();
+        drawMasks(r, x, m, 2 + r.nextInt(3), 1 + r.nextInt(3));
+        if (r.nextBoolean()) {
+            m.s.empty();
+            m.s.family(1);
+            int[] ways = new int[m.s.ways];
+            for (int i = 0; i < ways.length; i++) {
+                ways[i] = i;
+            }
+            due("family", x.family(1), m.rank(m.masksOf(ways)));
+        }
+        int deep = 2 + r.nextInt(2);
+        m.s.depth = deep;
+        due("depth", b(x.depth(deep)), 1);
+        feedText(r, x, m, drawText(r, 64, 0) + "(" + drawText(r, 64, 2) + ")2");
+        due("text", x.text(), m.text());
+        int lines = m.s.ways * (1 << m.s.bits) * (1 + r.nextInt(4)) + 3;
+        while (calls.size() < 460) {
+            int l = r.nextInt(lines);
+            int kind = r.nextInt(20);
+            Held h = m.s.held(l);
+            if (kind == 0 && h != null && !h.pinned || kind == 1 && h != null && h.pinned) {
+                h.pinned = kind == 0;
+                due(sign("pin", l, 1 - kind), b(x.pin(l, kind == 0)), 1);
+            } else if (kind < 5) {
+                look(r, x, m, lines);
+            } else if (kind == 5) {
+                study(r, x, m);
+            } else if (kind < 9) {
+                int i = r.nextInt(5) - 1;
+                List<Integer> moved = movedBy(m.s, l);
+                due(sign("moved", l, i), x.moved(l, i), i == -1 ? moved.size() : i < moved.size() ? moved.get(i) : -1);
+            } else if (kind < 11) {
+                due(sign("write", l, kind), b(x.write(l, kind)), b(m.s.write(l, kind)));
+            } else {
+                m.s.ask(l);
+                h = m.s.held(l);
+                due(sign("ask", l), x.ask(l), h == null ? m.s.mem(l) : h.value);
+            }
+            m.steps.clear();
+            for (int i = 0; i < x.about(1); i++) {
+                m.steps.add(m.s);
+            }
+        }
+        lookAtAll(x, m);
+        if (wrong > 0) {
+            System.out.println("deep seed " + seed + ", behind these calls: " + calls);
+        }
+    }
+
+    /** The lines that would be moved, were one asked for: those that are in another way then. */
+    private static List<Integer> movedBy(State s, int l) {
+        List<Integer> moved = new ArrayList<>();
+        if (s.held(l) != null) {
+            return moved;
+        }
+        State c = s.copy();
+        c.ask(l);
+        int way = c.wayOf(l);
+        int at = way < 0 ? -1 : c.index(l, way);
+        for (int k = c.book.get(c.book.size() - 1)[2]; k > 0; k--) {
+            int was = s.slots[way][at].line;
+            moved.add(0, was);
+            way = c.wayOf(was);
+            at = c.index(was, way);
+        }
+        return moved;
     }
 
     /** Text after text, most of them with a fault; BACK to the first image takes the traces away. */
@@ -1519,6 +1663,10 @@ public final class ModelRuns {
         int runs = args.length > 0 ? Integer.parseInt(args[0]) : 120;
         for (int seed = 1; seed <= runs && wrong == 0; seed++) {
             run(seed);
+        }
+        for (int seed = 1; seed <= runs && wrong == 0; seed++) {
+            runSets(seed);
+            runDeep(seed);
         }
         for (int seed = 1; seed <= 5 * runs && wrong == 0; seed++) {
             runTexts(seed);
