@@ -280,6 +280,10 @@ public final class EdgesOfTraces {
         x.ask(0);
         x.ask(4);
         Looks.due("0 and 4 being there is nothing to it", x.suited(0), 1);
+        SkewedWays y = plain("r1 r4");
+        y.family(1);
+        y.run(0);
+        Looks.due("all being there by SKEWED ones is nothing to it", y.suited(0), 0);
         x.mask(0, 0, 0);
         x.mask(1, 1, 0);
         Looks.due("whatever MASKS are told", x.suited(0), 1);

@@ -569,6 +569,15 @@ public final class EdgesOfWorth {
         Looks.due("four SLOTS", x.fitting(), 4);
         x.gather(10);
         Looks.due("another one has room", x.fitting(), 5);
+        x = new SkewedWays();
+        Looks.partWays(x, 2, 2);
+        // 0 in (0, 0), 9 in (0, 1), 5 in (1, 1); 4 for 0, that moves to (1, 0); 16 for 4, for 5, for 9, that moves to (1, 2).
+        gathered(x, 0, 9, 5, 4, 16);
+        Looks.due("five lines in five SLOTS", x.fitting(), 5);
+        x.gather(32);
+        Looks.due("no sixth one", x.fitting(), 5);
+        x.gather(2);
+        Looks.due("but one by itself", x.fitting(), 6);
         x = shaped(4, 4);
         x.family(1);
         Looks.told(x, "r0+5*35");
