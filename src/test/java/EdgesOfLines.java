@@ -242,7 +242,10 @@ public final class EdgesOfLines {
             Looks.due("book(" + i + ", 0)", x.book(i, 0), 52 + i);
             Looks.due("book(" + i + ", 1)", x.book(i, 1), 44 + i);
         }
-        Looks.due("book(-2, 0)", x.book(-2, 0), -2);
+        int[] far = {-2, 24, 25, 47, 48, 72, 96, 1000, Integer.MIN_VALUE, Integer.MAX_VALUE};
+        for (int i : far) {
+            Looks.due("book(" + i + ", 0)", x.book(i, 0), -2);
+        }
         Looks.due("book(23, 4)", x.book(23, 4), -2);
         Looks.due("book(23, -1)", x.book(23, -1), -2);
         Looks.due("undo", x.undo(), 19);
@@ -484,6 +487,56 @@ public final class EdgesOfLines {
         x = row(2);
         Looks.due("victim by depth 2", x.victim(0), 4);
         Looks.moved(x, 0);
+    }
+
+    /** Each of the six by itself, all being unlike. */
+    private static void counted() {
+        Looks.at("COUNTED: HITS, MISSES, OUT, BACK, MOVES, BYPASSED (at first 0)");
+        SkewedWays x = new SkewedWays();
+        counts(x, 0, 0, 0, 0, 0, 0);
+        Looks.partWays(x, 2, 2);
+        counts(x, 0, 0, 0, 0, 0, 0);
+        x.ask(4);
+        x.ask(16);
+        x.write(9, 90);
+        x.write(5, 50);
+        counts(x, 0, 4, 0, 0, 0, 0);
+        x.depth(3);
+        x.ask(0);
+        counts(x, 0, 5, 0, 0, 3, 0);
+        x.pin(0, true);
+        x.pin(16, true);
+        x.ask(32);
+        x.write(32, 1);
+        counts(x, 0, 7, 0, 0, 3, 2);
+        for (int i = 0; i < 11; i++) {
+            x.ask(9);
+        }
+        counts(x, 11, 7, 0, 0, 3, 2);
+        x.clean(9);
+        counts(x, 11, 7, 0, 1, 3, 2);
+        x.depth(0);
+        x.cool();
+        x.cool();
+        x.cool();
+        x.cool();
+        Looks.due("victim, of (0, 1) and (1, 1)", x.victim(21), 5);
+        x.ask(21);
+        counts(x, 11, 8, 1, 2, 3, 2);
+        x.empty();
+        counts(x, 11, 8, 1, 2, 3, 2);
+        x.shape(1, 1);
+        x.family(2);
+        counts(x, 11, 8, 1, 2, 3, 2);
+    }
+
+    private static void counts(SkewedWays x, int hits, int misses, int out, int back, int moves, int bypassed) {
+        Looks.due("HITS", x.is(3), hits);
+        Looks.due("MISSES", x.is(4), misses);
+        Looks.due("OUT", x.is(5), out);
+        Looks.due("BACK", x.is(6), back);
+        Looks.due("MOVES", x.is(7), moves);
+        Looks.due("BYPASSED", x.is(10), bypassed);
     }
 
     /** The one that comes is not DIRTY, though a DIRTY one was in its SLOT, and moved on. */
@@ -782,6 +835,7 @@ public final class EdgesOfLines {
         growingOlder();
         threeMovesToEmpty();
         threeMovesOut();
+        counted();
         dirtyMoves();
         stales();
         written();

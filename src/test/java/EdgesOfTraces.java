@@ -71,7 +71,15 @@ public final class EdgesOfTraces {
         Looks.due("length", x.length(0), 600);
         Looks.due("step(0, 599)", x.step(0, 599), 35);
         Looks.due("step(0, 600)", x.step(0, 600), -1);
-        Looks.due("step(0, -1)", x.step(0, -1), -1);
+        int[] far = {-1, 600, 601, 1199, 1200, 10000, Integer.MIN_VALUE, Integer.MAX_VALUE};
+        for (int i : far) {
+            Looks.due("step(0, " + i + ")", x.step(0, i), -1);
+            Looks.due("distance(0, " + i + ")", x.distance(0, i), -1);
+        }
+        for (int i = 91; i < 120; i++) {
+            Looks.due("step(1, " + i + ")", x.step(1, i), -1);
+            Looks.due("distance(1, " + i + ")", x.distance(1, i), -1);
+        }
         Looks.due("wide", x.wide(0), 99);
         Looks.due("hottest", x.hottest(0, false), 0);
         Looks.due("how often", x.hottest(0, true), 7);
@@ -340,6 +348,13 @@ public final class EdgesOfTraces {
             Looks.due("candidate", x.candidate(line, -1), -1);
             Looks.due("candidate", x.candidate(line, 0), -1);
             Looks.due("reach", x.reach(line, 0), -1);
+        }
+        int[] far = {-2, 3, 4, 15, 63, 64, 65, 1000, Integer.MIN_VALUE, Integer.MAX_VALUE};
+        for (int i : far) {
+            Looks.due("candidate(20, " + i + ")", x.candidate(20, i), -1);
+            Looks.due("candidate(0, " + i + "), it is in a SLOT", x.candidate(0, i), -1);
+            Looks.due("moved(20, " + i + ")", x.moved(20, i), -1);
+            Looks.due("moved(0, " + i + "), it is in a SLOT", x.moved(0, i), -1);
         }
         Looks.due("reach(4, -1)", x.reach(4, -1), -1);
         Looks.due("reach(4, 4)", x.reach(4, 4), -1);

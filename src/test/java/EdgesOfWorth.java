@@ -449,7 +449,15 @@ public final class EdgesOfWorth {
         Looks.due("scatter(1024)", x.scatter(1024), false);
         Looks.due("gather behind all", x.gather(1023), 31);
         Looks.due("gathered(30)", x.gathered(30), 1023);
+        int[] far = {-1 - 1, 31, 32, 33, 63, 1000, Integer.MIN_VALUE, Integer.MAX_VALUE};
+        for (int i : far) {
+            Looks.due("gathered(" + i + ")", x.gathered(i), -1);
+        }
+        Looks.due("gathered(-1)", x.gathered(-1), 31);
         x = gathered(new SkewedWays(), 5);
+        for (int i = 1; i < 40; i++) {
+            Looks.due("gathered(" + i + ")", x.gathered(i), -1);
+        }
         Looks.due("scatter the one there is", x.scatter(5), true);
         Looks.set(x);
         Looks.due("gather it again", x.gather(5), 1);
@@ -578,6 +586,12 @@ public final class EdgesOfWorth {
         Looks.due("no sixth one", x.fitting(), 5);
         x.gather(2);
         Looks.due("but one by itself", x.fitting(), 6);
+        x = new SkewedWays();
+        Looks.partWays(x, 2, 2);
+        // 9, 25 and 41 are of (0, 1) and (1, 2): that 0 could move is nothing to them.
+        gathered(x, 0, 9, 25, 41);
+        Looks.due("0 and two of three", x.fitting(), 3);
+        Looks.due("0 and three, PLAINLY two of them", x.fittingPlainly(), 3);
         x = shaped(4, 4);
         x.family(1);
         Looks.told(x, "r0+5*35");
