@@ -65,7 +65,7 @@ public final class SkewedWays {
     /** Promise 1. */
     public SkewedWays() {
         now.store.begin();
-        kept.takeAll(now);
+        kept.store.begin();
     }
 
     // ---- the tape and its texts
@@ -1527,7 +1527,7 @@ public final class SkewedWays {
             queue[0] = seated;
             Arrays.fill(reachedBy, NONE);
             int end = 1;
-            for (int at = 0; at < end; at++) {
+            for (int at = 0; at < end && at < PLACES; at++) {
                 int guest = queue[at];
                 for (int way = 0; way < store.ways; way++) {
                     int place = store.placeIn(guests[guest], way);

@@ -25,6 +25,8 @@ public final class LanguageRuns {
         + "stale/0 step/2 suited/1 sweep/3 tell/1 text/0 together/2 trade/2 twin/2 twins/1 undo/0 value/1 victim/1 "
         + "where/1 wide/1 working/2 worst/2 write/2 writes/1";
 
+    private static final Pattern TELLS = Pattern.compile("\\bthis\\b|\\b(?!for\\b|if\\b)\\w+ ?\\([^)]");
+
     private static int wrong = 0;
 
     private static void check(boolean is, String what) {
@@ -121,6 +123,8 @@ public final class LanguageRuns {
                 String name = m.group(3);
                 boolean constructor = Character.isUpperCase(name.charAt(0));
                 check(constructor || !bodies.containsKey(name), "a name is used by two methods: " + name);
+                check(!constructor || !TELLS.matcher(body).find(), "rule 12: a constructor hands something out: " + name);
+                check(!body.toString().contains("while (true)") && !body.toString().contains("for (;;"), "rule 9: " + name);
                 bodies.merge(name, body.toString(), String::concat);
             }
         }
